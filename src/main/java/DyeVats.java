@@ -171,7 +171,7 @@ public final class DyeVats {
         saveState();
         now.cells[PIPES + one] ^= 1 << other;
         now.cells[PIPES + other] ^= 1 << one;
-        return now.hasPipe(one, other) ? 1 : 0;
+        return now.cells[PIPES + one] >> other & 1;
     }
 
     public int set(int value) throws IllegalArgumentException {
@@ -317,7 +317,7 @@ public final class DyeVats {
             trial.takeFrom(now);
             trial.removeValve(valve);
             trial.runHours(DAY);
-            int out = trial.cells[WATER_OUT] - now.cells[WATER_OUT];
+            int out = trial.cells[WATER_OUT];
             if (best == NONE || out < least) {
                 best = valve;
                 least = out;
@@ -500,10 +500,6 @@ public final class DyeVats {
             return isVat(vat) ? cells[WATER + vat] * cells[SETTING] / 100 : 0;
         }
 
-        boolean hasPipe(int one, int other) {
-            return isVat(one) && isVat(other) && (cells[PIPES + one] >> other & 1) == 1;
-        }
-
         int pipesLaid() {
             int ends = 0;
             for (int vat = 0; vat < VATS; vat++) {
@@ -627,8 +623,9 @@ public final class DyeVats {
 
         private void levelPipes() {
             for (int one = 0; one < VATS; one++) {
+                int pipes = cells[PIPES + one];
                 for (int other = one + 1; other < VATS; other++) {
-                    if (hasPipe(one, other)) {
+                    if ((pipes >> other & 1) == 1) {
                         int more = cells[WATER + one] - cells[WATER + other];
                         if (more >= 0) {
                             moveWater(one, other, more / 2);

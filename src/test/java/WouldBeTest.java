@@ -12,6 +12,7 @@ final class WouldBeTest {
         Check.test("23 emptyIn's 240 hours", WouldBeTest::emptyInEdges);
         Check.test("23 emptyIn throws", WouldBeTest::emptyInThrows);
         Check.test("24 round", WouldBeTest::round);
+        Check.test("24 round, each way by itself", WouldBeTest::roundAlone);
         Check.test("24 round's 60 days", WouldBeTest::roundEdges);
         Check.test("24 the look is dissolved and settled grains, too", WouldBeTest::roundOfGrains);
         Check.test("24 round throws", WouldBeTest::roundThrows);
@@ -151,6 +152,20 @@ final class WouldBeTest {
         dueRound(drain, 1, 6);
     }
 
+    /** No way may lean on what another one, or the call ahead of it, has found. */
+    private static void roundAlone() {
+        for (int what = 0; what <= 3; what++) {
+            DyeVats vats = ofThreeDays();
+            vats.fill(4, 7);
+            vats.valve(4, 5, 1, 0, 0);
+            Check.due("round " + what, what % 2 == 0 ? 3 : 7, vats.round(what));
+            vats.fill(4, 70);
+            Check.due("round " + what + " beyond the days", -1, vats.round(what));
+            vats.undo();
+            Check.due("round " + what + " again", what % 2 == 0 ? 3 : 7, vats.round(what));
+        }
+    }
+
     private static void roundEdges() {
         for (int water = 56; water <= 58; water++) {
             DyeVats vats = ofThreeDays();
@@ -246,6 +261,14 @@ final class WouldBeTest {
         Check.dueDouble(4.0 / 7.0, vats.goneShare());
         vats.pass(24);
         Check.dueDouble(1.0, vats.goneShare());
+        DyeVats grain = new DyeVats();
+        grain.fill(0, 3);
+        grain.dye(0, 0, 1);
+        grain.set(200);
+        grain.valve(0, 5, 3, 0, 0);
+        Check.dueDouble(0.0, grain.goneShare());
+        grain.pass(1);
+        Check.dueDouble(1.0, grain.goneShare());
     }
 
     /** The hash of the document's list, by the face alone. */
