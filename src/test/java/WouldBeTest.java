@@ -319,15 +319,20 @@ final class WouldBeTest {
         Check.due(digestByFace(vats, true, false, "~"), vats.digest());
     }
 
+    /** Each time a new object: the list takes 150 calls, and what an object answers after its 512th one is free. */
     private static void digest() {
-        DyeVats vats = busy();
-        Check.due(digestByFace(vats, false, true, "0>1~"), vats.digest());
-        vats.pass(240);
-        Check.due(digestByFace(vats, false, true, "0>1~"), vats.digest());
-        vats.goBack(1);
-        Check.due(digestByFace(vats, false, true, "0>1~"), vats.digest());
-        vats.clearBuffer();
-        Check.due(digestByFace(vats, false, true, ""), vats.digest());
+        DyeVats soon = busy();
+        Check.due(digestByFace(soon, false, true, "0>1~"), soon.digest());
+        DyeVats late = busy();
+        late.pass(240);
+        Check.due(digestByFace(late, false, true, "0>1~"), late.digest());
+        DyeVats back = busy();
+        back.pass(240);
+        back.goBack(1);
+        Check.due(digestByFace(back, false, true, "0>1~"), back.digest());
+        DyeVats cleared = busy();
+        cleared.clearBuffer();
+        Check.due(digestByFace(cleared, false, true, ""), cleared.digest());
     }
 
     private static void nothingChanged() {
