@@ -223,4 +223,51 @@ abstract class Boundary {
         }
         return vats;
     }
+
+    /**
+     * All vats have water, and dissolved and settled grains of all dyes, each another number: vat v has the capacity
+     * 300 + v, 100 + 10 * v water, of dye d 21 + 2 * v + d dissolved and 1 + 3 * v + d settled grains.
+     */
+    static DyeVats crowded() {
+        DyeVats vats = new DyeVats();
+        for (int vat = 0; vat < 5; vat++) {
+            vats.capacity(vat, 300 + vat);
+            vats.fill(vat, 100 + 10 * vat);
+            for (int dye = 0; dye < 3; dye++) {
+                vats.dye(vat, dye, 21 + 5 * vat + dye);
+            }
+        }
+        vats.pass(1);
+        for (int vat = 0; vat < 5; vat++) {
+            for (int dye = 0; dye < 3; dye++) {
+                vats.dye(vat, dye, 1 + dye);
+            }
+        }
+        vats.pipe(0, 4);
+        vats.pipe(1, 4);
+        vats.pipe(2, 3);
+        vats.valve(0, 5, 7, 1, 1);
+        vats.valve(4, 2, 8, 0, 0);
+        return vats;
+    }
+
+    static int crowdedVat(int vat, int what) {
+        int[] masks = {16, 16, 8, 4, 3};
+        switch (what) {
+            case 0: return 300 + vat;
+            case 1: return 100 + 10 * vat;
+            case 8: return masks[vat];
+            case 9: return 20 + 2 * vat;
+            default: return what < 5 ? 21 + 2 * vat + what - 2 : 1 + 3 * vat + what - 5;
+        }
+    }
+
+    /** All vats but this one are as a crowded object has them. */
+    static void dueOthers(DyeVats vats, int but) {
+        for (int vat = 0; vat < 5; vat++) {
+            for (int what = 0; what <= 8 && vat != but; what++) {
+                Check.due("vatOf(" + vat + ", " + what + ")", crowdedVat(vat, what), vats.vatOf(vat, what));
+            }
+        }
+    }
 }

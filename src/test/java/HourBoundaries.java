@@ -14,6 +14,7 @@ final class HourBoundaries extends Boundary {
         valveOrder();
         pipes();
         pipeOrder();
+        eachPipeOnce();
         settling();
         steps();
     }
@@ -254,6 +255,15 @@ final class HourBoundaries extends Boundary {
             Check.due(2, vats.vatOf(1, 3));
             Check.due(10, vats.vatOf(1, 4));
         });
+        Check.test("10 to move water: from one vat to another one alone", () -> {
+            for (int from = 0; from < 5; from++) {
+                for (int to = 0; to <= 5; to++) {
+                    if (to != from) {
+                        dueMovedAlone(from, to);
+                    }
+                }
+            }
+        });
         holds("10 to move water: what has settled stays when all water goes", vats -> {
             vats.fill(0, 100);
             vats.dye(0, 0, 50);
@@ -276,6 +286,31 @@ final class HourBoundaries extends Boundary {
             vats.pass(1);
             Check.due("99999 * 500 / 2000", 24999, vats.dyeOf(2, 3));
         });
+    }
+
+    /** In a crowded object, whose own valves and pipes are gone, a half of a vat's water moves; nothing settles. */
+    private static void dueMovedAlone(int from, int to) {
+        DyeVats vats = crowded();
+        vats.close(1);
+        vats.close(0);
+        vats.pipe(0, 4);
+        vats.pipe(1, 4);
+        vats.pipe(2, 3);
+        vats.set(200);
+        vats.valve(from, to, 50 + 5 * from, 1, 1);
+        vats.pass(1);
+        for (int vat = 0; vat < 5; vat++) {
+            for (int what = 0; what <= 7; what++) {
+                int all = crowdedVat(from, what);
+                int gone = what == 1 || what >= 2 && what <= 4 ? all / 2 : 0;
+                int due = crowdedVat(vat, what) + (vat == to ? gone : vat == from ? -gone : 0);
+                Check.due(from + " to " + to + ", vatOf(" + vat + ", " + what + ")", due, vats.vatOf(vat, what));
+            }
+        }
+        for (int dye = 0; dye < 3; dye++) {
+            Check.due("out", to == 5 ? crowdedVat(from, 2 + dye) / 2 : 0, vats.dyeOf(dye, 3));
+        }
+        Check.due("out", to == 5 ? 50 + 5 * from : 0, vats.count(5));
     }
 
     private static void valveOrder() {
@@ -430,6 +465,26 @@ final class HourBoundaries extends Boundary {
         });
     }
 
+    private static void eachPipeOnce() {
+        holds("10 an hour: each pipe works once, also between vats that another one changes again", vats -> {
+            vats.fill(0, 16);
+            vats.pipe(0, 1);
+            vats.pipe(0, 2);
+            vats.pass(1);
+            dueWaters(vats, 4, 8, 4);
+        });
+        holds("10 an hour: all ten pipes, each once and in their order", vats -> {
+            vats.fill(0, 160);
+            for (int other = 4; other >= 0; other--) {
+                for (int one = 4; one > other; one--) {
+                    vats.pipe(one, other);
+                }
+            }
+            vats.pass(1);
+            dueWaters(vats, 10, 25, 38, 44, 43);
+        });
+    }
+
     /** What one hour leaves dissolved of these grains in this water. */
     private static void dueDissolved(int want, int setting, int water, int grains) {
         for (int dye = 0; dye < 3; dye++) {
@@ -457,6 +512,14 @@ final class HourBoundaries extends Boundary {
         Check.test("10 an hour: by the setting 1, 100 water hold a grain", () -> dueDissolved(1, 1, 100, 5));
         Check.test("10 an hour: by the setting 200, 1 water holds 2 grains", () -> dueDissolved(2, 200, 1, 3));
         Check.test("10 an hour: by the setting 199, 1 water holds 1 grain", () -> dueDissolved(1, 199, 1, 3));
+        Check.test("10 an hour: each dye of each vat by its own limit", () -> {
+            DyeVats vats = crowded();
+            for (int vat = 0; vat < 5; vat++) {
+                for (int what = 0; what <= 8; what++) {
+                    Check.due("vatOf(" + vat + ", " + what + ")", crowdedVat(vat, what), vats.vatOf(vat, what));
+                }
+            }
+        });
         holds("10 an hour: each dye has the limit by itself", vats -> {
             vats.fill(0, 100);
             for (int dye = 0; dye < 3; dye++) {

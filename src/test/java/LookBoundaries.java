@@ -39,21 +39,13 @@ final class LookBoundaries extends Boundary {
     }
 
     private static void vatOfValues() {
-        Supplier<DyeVats> vat = of(vats -> {
-            vats.capacity(3, 99);
-            vats.fill(3, 52);
-            vats.dye(3, 0, 3);
-            vats.dye(3, 1, 12);
-            vats.dye(3, 2, 18);
-            vats.pass(1);
-            vats.dye(3, 1, 4);
-            vats.pipe(3, 0);
-            vats.pipe(3, 4);
-        });
-        int[] due = {99, 52, 3, 14, 10, 0, 2, 8, 17, 10};
         for (int what = 0; what <= 9; what++) {
             int of = what;
-            answers("18 vatOf: property " + what + " of a vat", due[what], vat, vats -> vats.vatOf(3, of));
+            Check.test("18 vatOf: property " + what + " of each vat, all five in use", () -> {
+                for (int vat = 0; vat < 5; vat++) {
+                    Check.due("vatOf(" + vat + ", " + of + ")", crowdedVat(vat, of), crowded().vatOf(vat, of));
+                }
+            });
         }
         answers("18 vatOf: pipes to all other vats", 15, of(vats -> {
             for (int other = 0; other < 4; other++) {
@@ -185,6 +177,28 @@ final class LookBoundaries extends Boundary {
             int of = what;
             answers("20 dyeOf: property " + what + ", refused grains are none", due[what], dyed, vats -> vats.dyeOf(2, of));
         }
+        int[] first = {160, 125, 35, 0, 0};
+        int[] step = {10, 5, 5, 0, 0};
+        for (int what = 0; what <= 4; what++) {
+            int of = what;
+            Check.test("20 dyeOf: property " + what + " of each dye, all three in use", () -> {
+                for (int dye = 0; dye < 3; dye++) {
+                    Check.due("dyeOf(" + dye + ", " + of + ")", first[of] + dye * step[of], crowded().dyeOf(dye, of));
+                }
+            });
+        }
+        holds("20 dyeOf: of each dye by itself what went out", vats -> {
+            vats.set(200);
+            vats.fill(0, 10);
+            for (int dye = 0; dye < 3; dye++) {
+                vats.dye(0, dye, 20 + 10 * dye);
+            }
+            vats.valve(0, 5, 1, 0, 0);
+            vats.pass(1);
+            for (int dye = 0; dye < 3; dye++) {
+                Check.due(2 + dye, vats.dyeOf(dye, 3));
+            }
+        });
         holds("20 dyeOf: all grains that went out stay put in", vats -> {
             vats.fill(0, 10);
             vats.dye(0, 1, 2);
@@ -315,6 +329,12 @@ final class LookBoundaries extends Boundary {
     }
 
     private static void countValues() {
+        int[] due = {1, 1, 2, 3, 600, 0, 600, 0, 20, 6};
+        for (int what = 0; what <= 9; what++) {
+            int of = what;
+            answers("21 count: number " + what + " with all vats in use", due[what], Boundary::crowded,
+                vats -> vats.count(of));
+        }
         answers("21 count: eight valves", 8, of(vats -> {
             for (int i = 0; i < 8; i++) {
                 vats.valve(0, 5, 1, 0, 0);

@@ -306,6 +306,11 @@ final class TextBoundaries extends Boundary {
         Check.test("14 load: one valve, of the greatest numbers", () -> dueLoaded("4>5*500@23-23"));
         Check.test("14 load: two valves", () -> dueLoaded("4>5*500@23-23;0>4*99@0-23"));
         Check.test("14 load: six valves, the most that 60 characters hold", () -> dueLoaded(SIX));
+        Check.test("14 load: more than 8 valves cannot come about, as not even a seventh one can be typed", () -> {
+            DyeVats vats = typed(SIX + ";");
+            Check.dueThrow(STATE, () -> vats.append('0'));
+            Check.dueThrow(ARGUMENT, () -> vats.load());
+        });
         Check.test("14 load: a plan of 60 characters", () -> dueLoaded(SIX.substring(0, 58) + "10"));
         Check.test("14 load: one in place of eight", () -> {
             DyeVats vats = new DyeVats();
@@ -332,6 +337,33 @@ final class TextBoundaries extends Boundary {
             Check.due(0, vats.valveOf(0, 6));
             vats.pass(1);
             Check.due(3, vats.valveOf(0, 6));
+        });
+        Check.test("14 load: firstError ahead of it changes nothing", () -> {
+            DyeVats vats = typed("0>1*11@0-0;1>2*22@1-1;2>3*33@2-2");
+            for (int i = 0; i < 9; i++) {
+                vats.firstError();
+            }
+            Check.due(3, vats.load());
+            Check.due(11, vats.valveOf(0, 2));
+            Check.due(33, vats.valveOf(2, 2));
+        });
+        Check.test("14 load: a load ahead of it that throws changes nothing", () -> {
+            DyeVats vats = typed("0>1*11@0-0;1>2*22@1-1;2>3*33@2-");
+            for (int i = 0; i < 9; i++) {
+                Check.dueThrow(ARGUMENT, () -> vats.load());
+            }
+            type(vats, "5");
+            Check.due(3, vats.load());
+            Check.due(22, vats.valveOf(1, 2));
+            Check.due(5, vats.valveOf(2, 4));
+        });
+        Check.test("14 load: a longer and then a shorter plan", () -> {
+            DyeVats vats = typed(SIX);
+            vats.load();
+            type(vats, "3>2*77@7-7");
+            Check.due(1, vats.load());
+            Check.due(77, vats.valveOf(0, 2));
+            Check.due(1, vats.count(2));
         });
         Check.test("14 load: it clears the buffer", () -> {
             DyeVats vats = typed("0>1*1@0-0");

@@ -131,12 +131,34 @@ final class VatBoundaries extends Boundary {
             Check.due(1000, vats.count(4));
             Check.due(1000, vats.vatOf(0, 1));
         });
-        holds("2 fill: other vats stay empty", vats -> {
-            vats.fill(2, 5);
-            Check.due(0, vats.vatOf(1, 1));
-            Check.due(0, vats.vatOf(3, 1));
+        holds("2 fill: the 512th call of an object is as good as the first one", vats -> {
+            for (int call = 1; call <= 512; call++) {
+                Check.due(call, vats.fill(0, 1));
+            }
+        });
+        Check.test("2 fill: one vat alone, and nothing in it but its water", () -> {
+            for (int vat = 0; vat < 5; vat++) {
+                DyeVats vats = crowded();
+                Check.due(101 + 10 * vat, vats.fill(vat, 1));
+                dueOthers(vats, vat);
+                dueButOne(vats, vat, 1, 101 + 10 * vat);
+            }
+        });
+        holds("2 fill: the water that was filled in adds up, in all vats", vats -> {
+            vats.fill(0, 5);
+            vats.fill(0, 6);
+            vats.fill(4, 7);
+            Check.due(18, vats.count(6));
         });
         undoable("2 fill", vats -> vats.fill(2, 1));
+    }
+
+    /** One property of the vat, and no other one, is another one than a crowded object has. */
+    private static void dueButOne(DyeVats vats, int vat, int changed, int want) {
+        for (int what = 0; what <= 8; what++) {
+            int due = what == changed ? want : crowdedVat(vat, what);
+            Check.due("vatOf(" + vat + ", " + what + ")", due, vats.vatOf(vat, what));
+        }
     }
 
     private static void dyeArguments() {
@@ -195,6 +217,20 @@ final class VatBoundaries extends Boundary {
             vats.pass(1);
             Check.due(21, vats.dye(0, 0, 1));
             Check.due(40, vats.vatOf(0, 5));
+        });
+        Check.test("3 dye: one dye of one vat alone", () -> {
+            for (int vat = 0; vat < 5; vat++) {
+                for (int dye = 0; dye < 3; dye++) {
+                    DyeVats vats = crowded();
+                    int want = 31 + 2 * vat + dye;
+                    Check.due(want, vats.dye(vat, dye, 10));
+                    dueOthers(vats, vat);
+                    dueButOne(vats, vat, 2 + dye, want);
+                    for (int other = 0; other < 3; other++) {
+                        Check.due("put in of " + other, 160 + 10 * other + (other == dye ? 10 : 0), vats.dyeOf(other, 0));
+                    }
+                }
+            }
         });
         undoable("3 dye", vats -> vats.dye(0, 1, 1));
     }
@@ -338,10 +374,26 @@ final class VatBoundaries extends Boundary {
             Check.due(0, vats.stir(0));
             Check.due(30, vats.vatOf(0, 5));
         });
-        Check.test("4 stir: other vats are not stirred", () -> {
-            DyeVats vats = settledAndSet(50);
-            Check.due(0, vats.stir(1));
-            Check.due(30, vats.vatOf(0, 5));
+        Check.test("4 stir: one vat alone", () -> {
+            for (int vat = 0; vat < 5; vat++) {
+                DyeVats vats = crowded();
+                vats.set(200);
+                Check.due(3 * (1 + 3 * vat) + 3, vats.stir(vat));
+                dueOthers(vats, vat);
+                for (int dye = 0; dye < 3; dye++) {
+                    Check.due("dissolved", 22 + 5 * vat + 2 * dye, vats.vatOf(vat, 2 + dye));
+                    Check.due("settled", 0, vats.vatOf(vat, 5 + dye));
+                }
+            }
+        });
+        Check.test("4 stir: each dye to the same limit", () -> {
+            DyeVats vats = crowded();
+            vats.set(23);
+            Check.due("27 less 25, 26 and 27", 3, vats.stir(2));
+            int[] due = {27, 27, 27, 5, 7, 9};
+            for (int what = 2; what <= 7; what++) {
+                Check.due("vatOf(2, " + what + ")", due[what - 2], vats.vatOf(2, what));
+            }
         });
         holds("4 stir: what can be held is rounded down", vats -> {
             vats.fill(0, 104);
@@ -403,10 +455,13 @@ final class VatBoundaries extends Boundary {
         answers("5 capacity: the same one again", 1000, DyeVats::new, vats -> vats.capacity(3, 1000));
         undoable("5 capacity: the same one again", vats -> vats.capacity(4, 70));
         undoable("5 capacity", vats -> vats.capacity(4, 69));
-        holds("5 capacity: other vats keep theirs", vats -> {
-            vats.capacity(2, 5);
-            Check.due(1000, vats.vatOf(1, 0));
-            Check.due(1000, vats.vatOf(3, 0));
+        Check.test("5 capacity: of one vat alone", () -> {
+            for (int vat = 0; vat < 5; vat++) {
+                DyeVats vats = crowded();
+                Check.due(300 + vat, vats.capacity(vat, 200));
+                dueOthers(vats, vat);
+                dueButOne(vats, vat, 0, 200);
+            }
         });
     }
 }

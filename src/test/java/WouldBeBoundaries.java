@@ -250,6 +250,19 @@ final class WouldBeBoundaries extends Boundary {
             vats.valve(1, 2, 10, 0, 0);
             vats.valve(0, 1, 10, 0, 0);
         }));
+        rounds("6 behind a lead of 5", 6, 5, of(vats -> {
+            vats.set(200);
+            vats.fill(1, 29);
+            vats.fill(4, 37);
+            vats.dye(4, 0, 22);
+            vats.valve(1, 2, 15, 2, 3);
+            vats.valve(2, 4, 4, 2, 2);
+            vats.valve(4, 1, 57, 2, 2);
+            vats.valve(0, 1, 7, 0, 0);
+            vats.valve(3, 4, 34, 1, 1);
+            vats.valve(4, 0, 24, 0, 0);
+            vats.pipe(2, 3);
+        }));
         rounds("the days begin with the hour that is next", 3, 1, of(vats -> {
             vats.fill(1, 10);
             vats.valve(3, 0, 10, 0, 0);
@@ -259,6 +272,17 @@ final class WouldBeBoundaries extends Boundary {
             drain(vats, 4, 2);
             vats.pass(6);
         }));
+        for (int what = 0; what <= 3; what++) {
+            int of = what;
+            Check.test("24 round: " + what + " asked again when the vats have changed", () -> {
+                DyeVats vats = threeDays(7).get();
+                Check.due("at first", of % 2 == 0 ? 3 : 7, vats.round(of));
+                vats.fill(4, 51);
+                Check.due("beyond 60 days", -1, vats.round(of));
+                vats.pass(24);
+                Check.due("within 60 days", of % 2 == 0 ? 3 : 57, vats.round(of));
+            });
+        }
         Check.test("24 round: the limit of hours does not matter", () -> {
             DyeVats vats = HourBoundaries.atTheLimit();
             drain(vats, 1, 7);
@@ -436,6 +460,15 @@ final class WouldBeBoundaries extends Boundary {
             vats.dye(0, 2, 2);
             vats.dye(1, 1, 11);
             vats.valve(0, 5, 10, 0, 0);
+            vats.pass(1);
+        }));
+        share("of each dye another number", 10.0 / 108.0, of(vats -> {
+            vats.set(200);
+            vats.fill(0, 10);
+            vats.dye(0, 0, 20);
+            vats.dye(0, 1, 30);
+            vats.dye(0, 2, 58);
+            vats.valve(0, 5, 1, 0, 0);
             vats.pass(1);
         }));
         share("settled grains did not go out", 0.25, of(vats -> {
