@@ -22,7 +22,9 @@ public final class AllTests {
         watch.start();
         FaceTest.run();
         SourceTest.run();
+        LibraryTest.run();
         RoomTest.run();
+        ReadmeTest.run();
         VatBoundaries.run();
         VatsTest.run();
         ValveBoundaries.run();

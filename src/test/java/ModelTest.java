@@ -4,7 +4,8 @@ import java.util.function.LongSupplier;
 final class ModelTest {
     private static final int RUNS = 300;
     // What an object answers after its 512th call is free; a text and the looks of one step are below 50 calls.
-    private static final int MOST_CALLS = 512 - 50;
+    private static final int PROMISED_CALLS = 512;
+    private static final int MOST_CALLS = PROMISED_CALLS - 50;
 
     private final DyeVats vats = new DyeVats();
     private final Model model = new Model();
@@ -32,6 +33,16 @@ final class ModelTest {
                 accounts();
             }
         }
+        lastCalls();
+    }
+
+    /** The last call that is promised is answered as well as the first one. */
+    private void lastCalls() {
+        while (made < PROMISED_CALLS - 1) {
+            same("vatOf", () -> vats.vatOf(made % 5, made % 10), () -> model.vatOf(made % 5, made % 10));
+        }
+        Check.due("calls", PROMISED_CALLS - 1, made);
+        same("digest", vats::digest, model::digest);
     }
 
     /** Dye in is dye in vats or out, and water likewise. */
